@@ -100,7 +100,6 @@ public final class TreePeers {
     private final Reader reader = new Reader(tape);
     private final ClusterText clusterText = new ClusterText(reader, draft);
     private final Book lines = new Book(reader, live.plan);
-    private final SentenceText sentenceText = new SentenceText(reader, live.plan, draft.saying);
     private final int[] offerKeys = new int[MOST_KEYS];
     private int offerCount = 0;
     private final byte[] tagBytes = new byte[TAG_BYTES];
@@ -525,7 +524,7 @@ public final class TreePeers {
 
     public int sentence() {
         reader.open(tapeLength, SENTENCE_BYTES);
-        boolean read = sentenceText.read();
+        boolean read = draft.saying.read(reader, live.plan);
         closeText(0);
         if (!read) {
             return -1 - reader.faultPlace;
@@ -670,7 +669,7 @@ public final class TreePeers {
         }
 
         boolean isTold(long name) {
-            return keyNamed(name) != NONE || peerNamed(name) != NONE;
+            return indexOf(keyNames, keyCount, name) != NONE || indexOf(peerNames, peerCount, name) != NONE;
         }
 
         /** All that follows from the names, once they are all told. */
@@ -1720,7 +1719,96 @@ public final class TreePeers {
             ones = other.ones;
         }
 
-        void add(int word, int sign, int number) {
+        /** Reads a SENTENCE's text; with a fault what is here is free. */
+        boolean read(Reader reader, Plan plan) {
+            clear();
+            if (!readCond(reader, plan, 1)) {
+                return false;
+            }
+            return reader.token == T_END ? reader.isWhole() : reader.fail(F_TOKEN);
+        }
+
+        private boolean readCond(Reader reader, Plan plan, int within) {
+            if (!readAll(reader, plan, within)) {
+                return false;
+            }
+            for (int i = 0; i < TAPE_BYTES && reader.word == W_OR; i++) {
+                reader.next();
+                if (!readAll(reader, plan, within)) {
+                    return false;
+                }
+                add(W_OR, 0, 0);
+            }
+            return true;
+        }
+
+        private boolean readAll(Reader reader, Plan plan, int within) {
+            if (!readOne(reader, plan, within)) {
+                return false;
+            }
+            for (int i = 0; i < TAPE_BYTES && reader.word == W_AND; i++) {
+                reader.next();
+                if (!readOne(reader, plan, within)) {
+                    return false;
+                }
+                add(W_AND, 0, 0);
+            }
+            return true;
+        }
+
+        private boolean readOne(Reader reader, Plan plan, int within) {
+            int word = reader.word;
+            boolean bracket = reader.sign == '(';
+            if (!bracket && (word < W_NOT || word > W_NUMBER)) {
+                return reader.fail(F_TOKEN);
+            }
+            if (ones >= MOST_ONES || within > MOST_WITHIN) {
+                return reader.fail(F_MANY);
+            }
+            ones++;
+            reader.next();
+            if (bracket) {
+                return readCond(reader, plan, within + 1) && reader.passSign(')');
+            }
+            if (word == W_NOT) {
+                if (!readOne(reader, plan, within + 1)) {
+                    return false;
+                }
+                add(W_NOT, 0, 0);
+                return true;
+            }
+            return readPlainOne(reader, plan, word);
+        }
+
+        private boolean readPlainOne(Reader reader, Plan plan, int word) {
+            if (word == W_TORN) {
+                add(word, 0, 0);
+                return true;
+            }
+            if (word == W_HELD || word == W_GONE) {
+                int p = reader.seePeer(plan);
+                if (p == NONE) {
+                    return false;
+                }
+                add(word, 0, p);
+                reader.next();
+                return true;
+            }
+            int sign = reader.sign;
+            if (sign < '<' || sign > '>') {
+                return reader.fail(F_TOKEN);
+            }
+            reader.next();
+            int number = reader.seeNumber(0, MOST_VALUE);
+            if (number == NONE) {
+                return false;
+            }
+            reader.next();
+            add(word, sign, number);
+            return true;
+        }
+
+        private void add(int word, int sign, int number) {
             if (size < codes.length) {
                 codes[size] = word | sign << 8 | number << 16;
                 size++;
@@ -1772,107 +1860,6 @@ public final class TreePeers {
                 return left < right;
             }
             return sign == '>' ? left > right : left == right;
-        }
-    }
-
-    /** Reads a SENTENCE's text to a draft. */
-    private static final class SentenceText {
-        private final Reader reader;
-        private final Plan plan;
-        private final Saying saying;
-
-        SentenceText(Reader reader, Plan plan, Saying saying) {
-            this.reader = reader;
-            this.plan = plan;
-            this.saying = saying;
-        }
-
-        boolean read() {
-            saying.clear();
-            if (!readCond(1)) {
-                return false;
-            }
-            return reader.token == T_END ? reader.isWhole() : reader.fail(F_TOKEN);
-        }
-
-        private boolean readCond(int within) {
-            if (!readAll(within)) {
-                return false;
-            }
-            for (int i = 0; i < TAPE_BYTES && reader.word == W_OR; i++) {
-                reader.next();
-                if (!readAll(within)) {
-                    return false;
-                }
-                saying.add(W_OR, 0, 0);
-            }
-            return true;
-        }
-
-        private boolean readAll(int within) {
-            if (!readOne(within)) {
-                return false;
-            }
-            for (int i = 0; i < TAPE_BYTES && reader.word == W_AND; i++) {
-                reader.next();
-                if (!readOne(within)) {
-                    return false;
-                }
-                saying.add(W_AND, 0, 0);
-            }
-            return true;
-        }
-
-        private boolean readOne(int within) {
-            int word = reader.word;
-            boolean bracket = reader.sign == '(';
-            if (!bracket && (word < W_NOT || word > W_NUMBER)) {
-                return reader.fail(F_TOKEN);
-            }
-            if (saying.ones >= MOST_ONES || within > MOST_WITHIN) {
-                return reader.fail(F_MANY);
-            }
-            saying.ones++;
-            reader.next();
-            if (bracket) {
-                return readCond(within + 1) && reader.passSign(')');
-            }
-            if (word == W_NOT) {
-                if (!readOne(within + 1)) {
-                    return false;
-                }
-                saying.add(W_NOT, 0, 0);
-                return true;
-            }
-            return readPlainOne(word);
-        }
-
-        private boolean readPlainOne(int word) {
-            if (word == W_TORN) {
-                saying.add(word, 0, 0);
-                return true;
-            }
-            if (word == W_HELD || word == W_GONE) {
-                int p = reader.seePeer(plan);
-                if (p == NONE) {
-                    return false;
-                }
-                saying.add(word, 0, p);
-                reader.next();
-                return true;
-            }
-            int sign = reader.sign;
-            if (sign < '<' || sign > '>') {
-                return reader.fail(F_TOKEN);
-            }
-            reader.next();
-            int number = reader.seeNumber(0, MOST_VALUE);
-            if (number == NONE) {
-                return false;
-            }
-            reader.next();
-            saying.add(word, sign, number);
-            return true;
         }
     }
 

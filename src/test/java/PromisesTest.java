@@ -34,7 +34,9 @@ public final class PromisesTest {
         refusals();
         odds();
         books();
+        treesOfLivedBooks();
         sentences();
+        manySentences();
         sentenceStays();
         images();
         counts();
@@ -692,6 +694,30 @@ public final class PromisesTest {
         tells(x, 0, 0, 0, 0);
     }
 
+    /** A lived BOOK leaves the same NODES as the same deeds one by one. */
+    private static void treesOfLivedBooks() {
+        TreePeers x = Check.of(SMALL);
+        TreePeers y = Check.of(SMALL);
+        Check.is("34: lived", Check.book(x, 1, "put y f 3;put y b 4;drop y a;put y d 1;put z c 2;pull z x;"), NONE);
+        y.put(1, 5, 3);
+        y.put(1, 3, 4);
+        y.drop(1, 1);
+        y.put(1, 4, 1);
+        y.put(2, 2, 2);
+        y.pull(2, 0);
+        for (int p = 0; p < 3; p++) {
+            Check.is("34: NODES", x.peer(p, 2), y.peer(p, 2));
+            for (int i = 0; i < x.peer(p, 2) && i < y.peer(p, 2); i++) {
+                for (int what = 0; what <= 6; what++) {
+                    Check.is("34: node " + i + " what " + what, x.node(p, i, what), y.node(p, i, what));
+                }
+            }
+            for (int k = 0; k < 6; k++) {
+                Check.is("34: path", x.path(p, k), y.path(p, k));
+            }
+        }
+    }
+
     private static void wrong(TreePeers x, String text, int line, int why) {
         int before = x.now(2);
         Check.is("34: " + text, Check.book(x, 0, text), line);
@@ -746,6 +772,16 @@ public final class PromisesTest {
         }
         Check.is("37: " + text, x.said(keys.length), NONE);
         Check.is("37: " + text, x.said(-2), NONE);
+    }
+
+    private static void manySentences() {
+        TreePeers x = Check.of(SMALL);
+        for (int i = 0; i < 30; i++) {
+            Check.is("36: long", Check.sentence(x, "not(torn or number=4)and not not held x"), 7);
+            Check.is("37: long", x.said(NONE), 0);
+            Check.is("36: short", Check.sentence(x, "not held x and not number=4"), 4);
+            Check.is("37: short", x.said(0), 5);
+        }
     }
 
     private static void sentenceStays() {
