@@ -1,6 +1,10 @@
+import java.lang.reflect.InvocationTargetException;
+import java.lang.reflect.Method;
+import java.lang.reflect.Modifier;
 import java.nio.ByteBuffer;
 import java.nio.charset.StandardCharsets;
 import java.util.Arrays;
+import java.util.Comparator;
 import java.util.NoSuchElementException;
 
 /** What the tests share: feeding a text, comparing, and telling what was not as due. */
@@ -12,6 +16,14 @@ final class Check {
 
     interface Call {
         int answer();
+    }
+
+    interface Maker {
+        TreePeers make();
+    }
+
+    interface Deed {
+        void to(TreePeers x);
     }
 
     static void is(String what, long got, long due) {
@@ -83,6 +95,43 @@ final class Check {
         if (!got.equals(due)) {
             wrong++;
             System.out.println(what + " was '" + got + "', due is '" + due + "'");
+        }
+    }
+
+    /** Two objects made alike stay alike, if one is asked something that must change nothing. */
+    static void leaves(String what, Maker maker, Deed deed) {
+        TreePeers asked = maker.make();
+        deed.to(asked);
+        text(what + ": all stays", Dump.of(asked), Dump.of(maker.make()));
+    }
+
+    /** Runs each static method without parameters of a class of tests but main, by their names; ends with 1 if one fails. */
+    static void runEach(Class<?> tests) {
+        Method[] methods = tests.getDeclaredMethods();
+        Arrays.sort(methods, Comparator.comparing(Method::getName));
+        int run = 0;
+        for (Method m : methods) {
+            if (Modifier.isStatic(m.getModifiers()) && !Modifier.isPrivate(m.getModifiers()) && m.getParameterCount() == 0) {
+                int before = wrong;
+                runOne(m);
+                run++;
+                if (wrong > before) {
+                    System.out.println("  that is " + tests.getSimpleName() + "." + m.getName());
+                }
+            }
+        }
+        is(tests.getSimpleName() + " has tests", run > 0, true);
+        end();
+    }
+
+    private static void runOne(Method m) {
+        try {
+            m.invoke(null);
+        } catch (InvocationTargetException e) {
+            wrong++;
+            System.out.println(m.getName() + " was thrown out of: " + e.getCause());
+        } catch (IllegalAccessException e) {
+            throw new IllegalStateException(e);
         }
     }
 
