@@ -219,6 +219,15 @@ public final class CallBoundsTest {
         Check.is("40: KEYS now", x.count(0), 24);
         Check.is("40: PEERS now", x.count(1), 4);
         Check.is("9: ENTRIES now", x.peer(1, 0), 24);
+        Check.is("4: without 'has', without 'cut'", Check.cluster(x, "peer p;peer q;peer r;peer s;key aa;"), 5);
+        for (int p = 0; p < 4; p++) {
+            Check.is("9: no ENTRIES", x.peer(p, 0), 0);
+            Check.is("9: CUT from none", x.peer(p, 4), 0);
+        }
+        Check.is("14: the first STAMP", x.put(3, 0, 1), 0);
+        Check.is("11: the first STAMP", x.entry(3, 0, 1), 1);
+        Check.is("4: the same 'has' and 'cut' again", Check.cluster(x, "peer p;peer q;key k;has p k 1;cut p q;"), 5);
+        Check.is("4: and again", Check.cluster(x, "peer p;peer q;key k;has p k 1;cut p q;"), 5);
         Check.is("4: one again", Check.cluster(x, "key a;"), 1);
         Check.is("40: KEYS now", x.count(0), 1);
         Check.is("40: PEERS now", x.count(1), 0);
@@ -1160,6 +1169,9 @@ public final class CallBoundsTest {
             Check.is("34: lived", Check.book(x, 1, texts[i]), wrong[i]);
             Check.is("13: as far as it is not WRONG", x.now(2), busy().now(2) + lived[i]);
             Check.is("19: as one deed, if some LINE was", x.undo(), lived[i] == 0 ? 3 : 4);
+            if (lived[i] > 0) {
+                Check.text("19: as ahead of it", Dump.stateOf(x), before);
+            }
         }
         String forty = "put x d 1;put x d 2;".repeat(20);
         TreePeers x = Check.of(SMALL);
@@ -1168,6 +1180,28 @@ public final class CallBoundsTest {
         TreePeers y = Check.of(SMALL);
         Check.is("34: the last is WRONG", Check.book(y, 1, forty.substring(10) + "put x d 2;"), 39);
         Check.is("13: thirty-nine STAMPS", y.now(2), 44);
+    }
+
+    /** Promise 34: "or lived as far as it is not WRONG (1):" (as the same deeds one by one) */
+    static void booksLivedAsDeeds() {
+        TreePeers x = Check.of(SMALL);
+        TreePeers y = Check.of(SMALL);
+        Check.is("34: lived", Check.book(x, 1, "put y f 3;put y b 4;drop y a;put y d 1;put z c 2;pull z x;cut x y;heal y z;drop x e;"), NONE);
+        y.put(1, 5, 3);
+        y.put(1, 3, 4);
+        y.drop(1, 1);
+        y.put(1, 4, 1);
+        y.put(2, 2, 2);
+        y.pull(2, 0);
+        y.cut(0, 1);
+        y.heal(1, 2);
+        y.drop(0, 0);
+        Check.text("34: as deeds", Dump.stateOf(x), Dump.stateOf(y));
+        for (int p = 0; p < 3; p++) {
+            for (int k = 0; k < 6; k++) {
+                Check.is("26: PATH", x.path(p, k), y.path(p, k));
+            }
+        }
     }
 
     /** Promise 34: "-2 less the place of a FAULT;" */

@@ -60,7 +60,7 @@ final class Dump {
                 entry(p, k);
             }
             for (int i = 0; i < x.peer(p, 2); i++) {
-                add("node", x.node(p, i, 1), x.node(p, i, 4), x.node(p, i, 5), x.node(p, i, 6));
+                add("node", x.node(p, i, 0), x.node(p, i, 1), x.node(p, i, 2), x.node(p, i, 3), x.node(p, i, 4), x.node(p, i, 5), x.node(p, i, 6));
             }
         }
         for (int i = -1; i < x.said(NONE); i++) {
