@@ -720,29 +720,27 @@ public final class CallBoundsTest {
 
     /** Promise 19: "The latest of put(), drop(), pull(), cut(), heal() that was done," */
     static void undoOfEach() {
-        TreePeers x = Check.of(SMALL);
-        String[] states = new String[5];
-        for (int d = 0; d < 5; d++) {
-            TreePeers ahead = Check.of(SMALL);
-            for (int e = 0; e < d; e++) {
-                deed(ahead, e);
+        for (int left = 4; left >= 0; left--) {
+            TreePeers x = Check.of(SMALL);
+            for (int d = 0; d < 5; d++) {
+                Check.is("19: done", deed(x, d), 0);
             }
-            states[d] = Dump.stateOf(ahead);
+            x.put(0, 4, 9);
+            x.drop(0, 5);
+            x.pull(1, 0);
+            x.cut(1, 0);
+            x.heal(1, 2);
+            x.put(9, 9, 9);
+            for (int d = 4; d >= left; d--) {
+                Check.is("19: what was refused is none", x.undo(), d);
+            }
+            TreePeers ahead = Check.of(SMALL);
+            for (int d = 0; d < left; d++) {
+                deed(ahead, d);
+            }
+            Check.text("19: as ahead of deed " + left, Dump.stateOf(x), Dump.stateOf(ahead));
+            Check.is("19: how many more", x.undo(), left - 1);
         }
-        for (int d = 0; d < 5; d++) {
-            Check.is("19: done", deed(x, d), 0);
-        }
-        x.put(0, 4, 9);
-        x.drop(0, 5);
-        x.pull(1, 0);
-        x.cut(1, 0);
-        x.heal(1, 2);
-        x.put(9, 9, 9);
-        for (int d = 4; d >= 0; d--) {
-            Check.is("19: what was refused is none", x.undo(), d);
-            Check.text("19: as ahead of deed " + d, Dump.stateOf(x), states[d]);
-        }
-        Check.is("19: none is", x.undo(), NONE);
     }
 
     private static int deed(TreePeers x, int which) {
@@ -1361,14 +1359,13 @@ public final class CallBoundsTest {
     /** Promise 38: "CLUSTER, all that is so and the SENTENCE are kept in place k (0, 1): true; false: no such one." */
     static void imagesOfTwo() {
         TreePeers x = busy();
-        String first = Dump.stateOf(x);
         Check.is("38: 0", x.image(0), true);
         x.put(1, 5, 5);
         Check.sentence(x, "torn");
         Check.is("38: 1", x.image(1), true);
         Check.cluster(x, "rule most;key k;peer p;");
         Check.is("39: 0", x.restore(0), true);
-        Check.text("39: all as it was", Dump.stateOf(x), first);
+        Check.text("39: all as it was", Dump.stateOf(x), Dump.stateOf(busy()));
         TreePeers y = busy();
         y.put(1, 5, 5);
         Check.sentence(y, "torn");

@@ -7,10 +7,11 @@ import java.util.NoSuchElementException;
 import java.util.Random;
 import java.util.TreeMap;
 
-/** Runs of up to 512 calls by seeds, each answer compared with the one of the slow telling of the document. */
+/** Runs of some 450 to 512 calls by seeds, each answer compared with the one of the slow telling of the document. */
 public final class OracleTest {
     private static final int RUNS = 900;
-    private static final int CALLS = 512;
+    /** A step asks some fifty times at the most, and behind the 512th call nothing is promised. */
+    private static final int CALLS = 450;
     private static final String THROWN = "throws.NoSuchElementException";
 
     private final Random random;

@@ -34,7 +34,6 @@ public final class PromisesTest {
         refusals();
         odds();
         books();
-        treesOfLivedBooks();
         sentences();
         manySentences();
         sentenceStays();
@@ -692,30 +691,6 @@ public final class PromisesTest {
         tells(x, 0, 2, 7, 3);
         Check.is("34: empty", x.book(0), NONE);
         tells(x, 0, 0, 0, 0);
-    }
-
-    /** A lived BOOK leaves the same NODES as the same deeds one by one. */
-    private static void treesOfLivedBooks() {
-        TreePeers x = Check.of(SMALL);
-        TreePeers y = Check.of(SMALL);
-        Check.is("34: lived", Check.book(x, 1, "put y f 3;put y b 4;drop y a;put y d 1;put z c 2;pull z x;"), NONE);
-        y.put(1, 5, 3);
-        y.put(1, 3, 4);
-        y.drop(1, 1);
-        y.put(1, 4, 1);
-        y.put(2, 2, 2);
-        y.pull(2, 0);
-        for (int p = 0; p < 3; p++) {
-            Check.is("34: NODES", x.peer(p, 2), y.peer(p, 2));
-            for (int i = 0; i < x.peer(p, 2) && i < y.peer(p, 2); i++) {
-                for (int what = 0; what <= 6; what++) {
-                    Check.is("34: node " + i + " what " + what, x.node(p, i, what), y.node(p, i, what));
-                }
-            }
-            for (int k = 0; k < 6; k++) {
-                Check.is("34: path", x.path(p, k), y.path(p, k));
-            }
-        }
     }
 
     private static void wrong(TreePeers x, String text, int line, int why) {
