@@ -929,6 +929,8 @@ public final class CallBoundsTest {
         Check.is("25: CUT", x.pulls(0, 3), NONE);
         x.heal(0, 3);
         Check.is("25: HEALED", x.pulls(0, 3), 4);
+        x.cut(2, 3);
+        Check.is("25: CUT, though their ROOTS are alike", x.pulls(2, 3), NONE);
         stays("25: CUT", NONE, y -> y.pulls(0, 1));
         stays("25: not CUT", 4, y -> y.pulls(0, 2));
         twoPeers("25", TreePeers::pulls);

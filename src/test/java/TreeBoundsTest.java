@@ -441,6 +441,27 @@ public final class TreeBoundsTest {
         Check.is("11: the STAMP is another", gone.root(0) == gone.root(1), false);
     }
 
+    /** Promise 20, by Terms: "and it is the first one, or the one above it is VISITED." (i's NODE, with j's below it, has the DIGEST of b's at q) */
+    static void visitedBelowVisitedAlone() {
+        TreePeers x = Check.of("bits 1;key b;key i;key j;key m;peer p;peer q;has p i 638;has p j 284;has q b 73;");
+        Check.is("12: j is in a NODE below", x.node(0, 1, 2), 2);
+        Check.is("10: like DIGESTS of unlike NODES", x.root(0), x.root(1));
+        Check.is("12: below it another one", x.node(0, 1, 6) == x.root(1), false);
+        Check.is("20: the first one is not, so none below is", x.visits(0, 1), 0);
+        Check.is("22: no OFFERS", x.offers(1, 0), 0);
+        Check.is("28: PART", x.part(0, 1, 0), 0);
+        x.put(0, 3, 5);
+        Check.is("12: m, i, j, each in a NODE below the one before", x.node(0, 2, 5), 1);
+        Check.is("12: i's DIGEST stays", x.node(0, 1, 6), x.root(1));
+        Check.is("20: the first one alone, as i's is not", x.visits(0, 1), 1);
+        Check.is("28: one by three", x.part(0, 1, 1), 3);
+        Check.is("22: m alone", x.offers(1, 0), 1);
+        Check.is("23: m", x.offerAt(0), 3);
+        x.put(0, 1, 639);
+        Check.is("20: i's is, but j's is no NODE's at q, too", x.visits(0, 1), 3);
+        Check.is("22: all", x.offers(1, 0), 3);
+    }
+
     /** Promise 22, by Terms: "OFFERS of b to a: ENTRIES of KEYS in NODES of b that are VISITED against a, of which a has none, or one over which they WIN; in the order of KEYS." */
     static void offersInOrder() {
         TreePeers x = of("bits 1;page 12;", letters("xwvutsrqponmlkjihgfedcba"));
