@@ -852,21 +852,24 @@ public final class TreePeers {
             }
             int me = nodes;
             nodes++;
-            int top = topLevel(from, to);
-            openNode(me, top, up);
-            int x = top + 1;
+            openNode(me, topLevel(from, to), up);
+            digests[me] = fillNode(me, from, to, depth);
+            return digests[me];
+        }
+
+        /** Gives a node its keys of a part of the row and the nodes below it; its digest. */
+        private int fillNode(int me, int from, int to, int depth) {
+            int x = level[me] + 1;
             int begin = from;
             for (int i = from; i < to; i++) {
-                if (rowLevels[i] == top) {
+                if (rowLevels[i] == level[me]) {
                     x = mix(x, growNode(begin, i, me, depth + 1));
                     x = mix(x, rowDigests[i]);
                     addKey(me, row[i]);
                     begin = i + 1;
                 }
             }
-            x = mix(x, growNode(begin, to, me, depth + 1));
-            digests[me] = x;
-            return x;
+            return mix(x, growNode(begin, to, me, depth + 1));
         }
 
         private int topLevel(int from, int to) {
@@ -1770,14 +1773,15 @@ public final class TreePeers {
             if (bracket) {
                 return readCond(reader, plan, within + 1) && reader.passSign(')');
             }
-            if (word == W_NOT) {
-                if (!readOne(reader, plan, within + 1)) {
-                    return false;
-                }
-                add(W_NOT, 0, 0);
-                return true;
+            return word == W_NOT ? readDenied(reader, plan, within + 1) : readPlainOne(reader, plan, word);
+        }
+
+        private boolean readDenied(Reader reader, Plan plan, int within) {
+            if (!readOne(reader, plan, within)) {
+                return false;
             }
-            return readPlainOne(reader, plan, word);
+            add(W_NOT, 0, 0);
+            return true;
         }
 
         private boolean readPlainOne(Reader reader, Plan plan, int word) {
