@@ -3,28 +3,24 @@ import java.lang.reflect.Constructor;
 import java.lang.reflect.Field;
 import java.lang.reflect.Method;
 import java.lang.reflect.Modifier;
-import java.util.Arrays;
+import java.nio.file.Files;
+import java.nio.file.Path;
 import java.util.NoSuchElementException;
 import java.util.Set;
 import java.util.TreeSet;
+import java.util.regex.Matcher;
+import java.util.regex.Pattern;
 
-/** The document's public face and those rules of LANGUAGE.md that the compiled class can tell. */
+/** The public face is the document's, and the compiled class has nothing beside it that rule 1 of LANGUAGE.md rules out. */
 public final class FaceTest {
-    private static final String[] FACE = {
-        "int feed(int,int,int,int,int)", "boolean end(int)", "int cluster()", "int fault()", "int faultLine()", "int key(int,int)",
-        "int digest(int) throws", "int peer(int,int)", "int root(int) throws", "int entry(int,int,int) throws",
-        "int node(int,int,int) throws", "int now(int)", "int put(int,int,int)", "int drop(int,int)", "int pull(int,int)",
-        "int cut(int,int)", "int heal(int,int)", "int undo()", "int visits(int,int)", "int differs(int,int)", "int offers(int,int)",
-        "int offerAt(int)", "int fresh(int,int,int)", "int pulls(int,int)", "int path(int,int)", "int mean(int,int) throws",
-        "int part(int,int,int) throws", "int tag(int)", "int byteAt(int)", "int drawn(int,int)", "int refused(int)",
-        "int odds(int,int)", "int book(int)", "int told(int)", "int sentence()", "int said(int)", "boolean image(int)",
-        "boolean restore(int)", "int count(int)"};
+    private static final Pattern METHOD = Pattern.compile("public (int|boolean) (\\w+)\\(([^)]*)\\)( throws NoSuchElementException)?;");
 
     private FaceTest() {
     }
 
     public static void main(String[] args) throws IOException {
-        Set<String> due = new TreeSet<>(Arrays.asList(FACE));
+        String face = face();
+        Set<String> due = told(face);
         Set<String> got = new TreeSet<>();
         Set<String> names = new TreeSet<>();
         for (Method m : TreePeers.class.getDeclaredMethods()) {
@@ -41,10 +37,30 @@ public final class FaceTest {
         Check.is("one constructor", makers.length, 1);
         Check.is("public", Modifier.isPublic(makers[0].getModifiers()), true);
         Check.is("without parameters", makers[0].getParameterCount(), 0);
+        Check.is("NONE is told", face.contains("public static final int NONE = -1;"), true);
         Check.is("NONE", TreePeers.NONE, -1);
         fields();
         inside(names);
         Check.end();
+    }
+
+    /** The document's public face, as it stands there. */
+    private static String face() throws IOException {
+        String doc = Files.readString(Path.of(System.getProperty("shared", "../shared")).resolve("DOC.md"));
+        int from = doc.indexOf("```java", doc.indexOf("## The public face"));
+        return doc.substring(from, doc.indexOf("```", from + 3));
+    }
+
+    private static Set<String> told(String face) {
+        Set<String> told = new TreeSet<>();
+        Matcher m = METHOD.matcher(face);
+        while (m.find()) {
+            String parameters = m.group(3).replaceAll("int \\w+", "int").replace(" ", "");
+            told.add(m.group(1) + " " + m.group(2) + "(" + parameters + ")" + (m.group(4) == null ? "" : " throws"));
+        }
+        Check.is("methods that are told, and a line each for import, class, NONE, constructor, end",
+            told.size() + 5, face.lines().filter(l -> !l.isBlank() && !l.startsWith("```")).count());
+        return told;
     }
 
     private static String form(Method m) {
