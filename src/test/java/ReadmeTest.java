@@ -16,12 +16,14 @@ public final class ReadmeTest {
     private static final Pattern BLOCK = Pattern.compile("```(\\w+)\\n(.*?)```", Pattern.DOTALL);
     private static final Pattern ANSWER = Pattern.compile("(?:show|println)\\(.*\\); *// (.*)");
 
+    /** What a clean checkout's commands may not lean on. */
+    private static final Set<String> UNTOLD = Set.of(".git", "out");
+
     private ReadmeTest() {
     }
 
     public static void main(String[] args) throws IOException, InterruptedException {
-        Path project = Path.of(System.getProperty("project", "."));
-        Path shared = Path.of(System.getProperty("shared", "../shared"));
+        Path project = Path.of(System.getProperty("project", ".")).toRealPath();
         String readme = Files.readString(project.resolve("README.md"));
         String example = Files.readString(project.resolve("example/Example.java"));
         Check.text("the example in README.md", String.join("", blocks(readme, "java")), example);
@@ -29,9 +31,8 @@ public final class ReadmeTest {
         tests(readme, project);
         Path copy = Files.createTempDirectory("readme");
         try {
-            copyTree(project, copy.resolve("project"), Set.of(".git", "out"));
-            copyTree(shared, copy.resolve("shared"), Set.of());
-            commands(readme, copy.resolve("project"), due(example));
+            copyTree(project, copy);
+            commands(readme, copy, due(example));
         } finally {
             remove(copy);
         }
@@ -111,10 +112,10 @@ public final class ReadmeTest {
         return printed.replace(System.lineSeparator(), "\n");
     }
 
-    private static void copyTree(Path from, Path to, Set<String> without) throws IOException {
+    private static void copyTree(Path from, Path to) throws IOException {
         List<Path> all;
         try (Stream<Path> files = Files.walk(from)) {
-            all = files.filter(f -> f.equals(from) || !without.contains(from.relativize(f).getName(0).toString())).toList();
+            all = files.filter(f -> !UNTOLD.contains(from.relativize(f).getName(0).toString())).toList();
         }
         for (Path file : all) {
             Path target = to.resolve(from.relativize(file).toString());
